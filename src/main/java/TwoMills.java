@@ -1145,6 +1145,7 @@ public final class TwoMills {
         /** Marks a sign that stands ahead of one value. */
         static final int AHEAD = 1 << 16;
         static final int AHEAD_STRENGTH = 11;
+        static final long GREATEST = 9223372036854775807L;
 
         final Tokens tokens;
         final long[] values = new long[Row.MOST];
@@ -1232,7 +1233,7 @@ public final class TwoMills {
             int start = Tokens.start(token);
             for (int k = start; k < start + Tokens.length(token); k++) {
                 int digit = tokens.chars[k] - '0';
-                if (!isDigit(tokens.chars[k]) || number > (Long.MAX_VALUE - digit) / 10) {
+                if (!isDigit(tokens.chars[k]) || number > (GREATEST - digit) / 10) {
                     tokens.fail(VALUE);
                 }
                 number = number * 10 + digit;

@@ -24,6 +24,9 @@ public final class FirstTest {
         Mills.firstGives("len (ab) defined(ab) xlen(ab) len1(ab)", "len (ab) defined(ab) xlen(ab) len1(ab)");
         Mills.firstGives("1len(ab)", "12");
         Mills.firstGives("_len(ab)", "_len(ab)");
+        Mills.firstGives("Alen(ab) Zlen(ab) zlen(ab) lenA(ab) lenZ(ab) lenz(ab) len0(ab) len9(ab)", "Alen(ab) Zlen(ab) zlen(ab) lenA(ab) lenZ(ab) lenz(ab) len0(ab) len9(ab)");
+        Mills.firstGives("define(A,1)define(Z,2)define(z,3)define(_,4)A Z z _ a", "1 2 3 4 a");
+        Mills.firstGives("@len(ab)[len(ab)^len(ab){len(ab)/len(ab):len(ab)", "@2[2^2{2/2:2");
     }
 
     private static void quotesNest() {
@@ -50,6 +53,7 @@ public final class FirstTest {
         Mills.firstGives("define(b,`len')b(abc)-define(c,`len(abc)')c", "len-3");
         Mills.firstGives("define(12,x)define(a b,y)define(,z)define(abcdefghi,q)12 a b abcdefghi", "12 a b abcdefghi");
         Mills.firstGives("define(abcdefgh,q)abcdefgh", "q");
+        Mills.states(Mills.firstGives("define(abcdefghi,q)abcdefgh", "abcdefgh"), 4, 0);
         Mills.firstGives("define(a)a-", "-");
         Mills.firstGives("define(a,b,c,d)a", "b");
     }
@@ -169,6 +173,22 @@ public final class FirstTest {
         Mills.firstGives("len(len(" + "x".repeat(150) + ")len(" + "y".repeat(150) + "))", "6");
     }
 
+    private static void roomComesBack() {
+        TwoMills mills = Mills.typed("len(" + "x".repeat(201) + ")");
+        Mills.due("first() fails", -1, Mills.first(mills));
+        mills.clear();
+        Mills.type(mills, "`" + "y".repeat(200) + "'`" + "y".repeat(180) + "'len(ab)");
+        Mills.due("first()", 381, Mills.first(mills));
+        mills.clear();
+        Mills.type(mills, "define(a,`" + "1".repeat(40) + "')" + "a ".repeat(12));
+        Mills.due("first() fails", -1, Mills.first(mills));
+        Mills.due("first() fails likewise", -1, Mills.first(mills));
+        Mills.states(mills, 6, 400);
+        mills.clear();
+        Mills.type(mills, "len(ab)");
+        Mills.due("first()", 1, Mills.first(mills));
+    }
+
     private static void definitionsAreLimited() {
         StringBuilder ten = new StringBuilder();
         for (int k = 0; k < 10; k++) {
@@ -196,6 +216,8 @@ public final class FirstTest {
             text.append("define(").append(c).append(",x)");
         }
         Mills.states(Mills.firstGives(text + "b)))))", "01234x"), 4, 10);
+        String again = "pushdef(`a',-)a()popdef(`a')";
+        Mills.states(Mills.firstGives(again.repeat(14) + "a", "-".repeat(14) + "a"), 4, 0);
     }
 
     private static void eachRunBeginsAnew() {
@@ -216,5 +238,6 @@ public final class FirstTest {
         Mills.type(mills, "a)");
         Mills.due("nothing is collected any more", 2, Mills.first(mills));
         Mills.states(mills, 0, 0);
+        roomComesBack();
     }
 }

@@ -26,6 +26,8 @@ public final class OrdersTest {
         Mills.secondGives("x\"a  b\"y\"\"z", "x \"a  b\" y \"\" z\n");
         Mills.secondGives("x\"a  b\ny\"", "x \" a b\ny \"\n");
         Mills.secondGives("a # b", "a # b\n");
+        Mills.secondGives("zA_09Z@AZaz[Az{0zAZ9_:", "zA_09Z @ AZaz [ Az { 0zAZ9_ :\n");
+        Mills.secondGives("!$%^&*()-+=[]{};:@~,./<>?|\\", "! $ % ^ & * ( ) - + = [ ] { } ; : @ ~ , . / < > ? | \\\n");
         Mills.secondGives("## define a b\na", "## define a b\na\n");
     }
 
@@ -154,6 +156,26 @@ public final class OrdersTest {
         Mills.secondGives(define + "a a a a a\na a a a a\na a a a a\n", line + line + line);
         Mills.secondFails(define + "a a a a a\na a a a a\na a a a a\n\n#\nx", Mills.ROOM, 6, line + line + line);
         Mills.secondFails(define + "a a a a a\na a a a a\na a a a a 1\n", Mills.ROOM, 3, line + line);
+        String shorter = define + "a a a a a\na a a a a\na a a a 1\n" + "x".repeat(36) + "\n";
+        String result = line + line + (body + " ").repeat(4) + "1\n" + "x".repeat(36) + "\n";
+        Mills.states(Mills.secondGives(shorter, result), 7, 599);
+        Mills.states(Mills.secondFails(shorter + "y", Mills.ROOM, 5, result), 7, 599);
+    }
+
+    /** A token ends where the text ends, whatever stood there before. */
+    private static void oldCharactersAreGone() {
+        TwoMills mills = new TwoMills();
+        for (String text : new String[] {"abc", "<<<", "###", "\"\"\"", "123"}) {
+            mills.clear();
+            Mills.type(mills, text);
+            Mills.first(mills);
+            Mills.second(mills);
+            mills.clear();
+            Mills.type(mills, text.substring(2));
+            Mills.first(mills);
+            Mills.second(mills);
+            Mills.due("result", text.equals("###") ? "" : text.substring(2) + "\n", Mills.result(mills));
+        }
     }
 
     private static void eachRunBeginsAnew() {
@@ -169,5 +191,6 @@ public final class OrdersTest {
         Mills.due("result", "a\n", Mills.result(mills));
         Mills.states(mills, 5, 0);
         Mills.states(mills, 3, 0);
+        oldCharactersAreGone();
     }
 }
