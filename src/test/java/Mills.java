@@ -13,15 +13,21 @@ final class Mills {
 
     private static int wrong;
     private static int asked;
+    private static String sentence = "";
 
     private Mills() {
+    }
+
+    /** The document's words that the next answers are about, so that a wrong one shows what broke. */
+    static void sentence(String words) {
+        sentence = words + "\n  ";
     }
 
     static void due(String what, Object want, Object got) {
         asked++;
         if (!want.equals(got)) {
             wrong++;
-            System.out.println(what + "\n  due is   " + shown(want) + "\n  answered " + shown(got));
+            System.out.println(sentence + what + "\n  due is   " + shown(want) + "\n  answered " + shown(got));
         }
     }
 
