@@ -20,6 +20,7 @@ public final class FirstCallEdgesTest {
         shiftQuotes();
         dnlDrops();
         thereAreTenDefinitions();
+        definitionsComeAndGo();
         textsHave40();
         Mills.finish();
     }
@@ -127,6 +128,8 @@ public final class FirstCallEdgesTest {
         definitions(Mills.firstGives("pushdef(`a',1)pushdef(`b',2)pushdef(`a',3)popdef(`a')a`'b", "12"), 2);
         definitions(Mills.firstGives("pushdef(`a',1)pushdef(`b',2)popdef(`a')a`'b", "a2"), 1);
         definitions(Mills.firstGives("pushdef(`a',1)popdef(`a')popdef(`a')popdef(`a')a", "a"), 0);
+        String again = "pushdef(`a',-)a()popdef(`a')";
+        definitions(Mills.firstGives(again.repeat(14) + "a", "-".repeat(14) + "a"), 0);
     }
 
     private static void ifdefChooses() {
@@ -164,6 +167,8 @@ public final class FirstCallEdgesTest {
         }) {
             Mills.firstFails("x incr(" + wrong + ")y", Mills.NUMBER, "x ");
         }
+        Mills.firstFails("len(`" + "x".repeat(200) + "'incr())", Mills.NUMBER, "");
+        Mills.firstFails("len(`" + "x".repeat(199) + "'incr(-))", Mills.NUMBER, "");
     }
 
     private static void lenMeasures() {
@@ -226,6 +231,22 @@ public final class FirstCallEdgesTest {
         String pushed = "pushdef(`a',1)".repeat(10);
         definitions(Mills.firstGives(pushed + "a", "1"), 10);
         definitions(Mills.firstFails(pushed + "pushdef(`a',1)", Mills.ROOM, ""), 10);
+    }
+
+    private static void definitionsComeAndGo() {
+        Mills.sentence("popdef: the first argument's latest definition goes, if there is one.");
+        // Each of three goes in the place of another, and the other ones keep theirs.
+        String three = "pushdef(`a',1)pushdef(`b',2)pushdef(`c',3)";
+        for (String gone : new String[] {"a", "b", "c"}) {
+            String left = "abc".replace(gone, "");
+            String all = "a`'b`'c`'d`'e ";
+            String due = "123".replace(gone.equals("a") ? "1" : gone.equals("b") ? "2" : "3", gone);
+            definitions(Mills.firstGives(three + "popdef(`" + gone + "')pushdef(`d',4)" + all, due + "4e "), 3);
+            definitions(Mills.firstGives(three + "popdef(`" + gone + "')pushdef(`d',4)pushdef(`e',5)" + all, due + "45 "), 4);
+            String next = left.substring(0, 1);
+            definitions(Mills.firstGives(three + gone + "(popdef(`" + gone + "')pushdef(`d',4)pushdef(`e',5))`'" + next + "`'d`'e",
+                    (gone.charAt(0) - 'a' + 1) + "" + (next.charAt(0) - 'a' + 1) + "45"), 4);
+        }
     }
 
     private static void textsHave40() {

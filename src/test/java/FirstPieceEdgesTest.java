@@ -7,6 +7,7 @@ public final class FirstPieceEdgesTest {
 
     public static void main(String[] args) {
         eachRunBeginsWithNothing();
+        nothingIsLeftOfARunThatFailed();
         theTextStaysTyped();
         thereAre600Pieces();
         theLastPieceMayEndTheRun();
@@ -19,6 +20,7 @@ public final class FirstPieceEdgesTest {
         theLatestDefinitionCounts();
         theBracketBelongsToThePiece();
         otherPiecesArePut();
+        wordsHaveLettersAndDigits();
         argumentsAreOpenAtTheEnd();
         whatWasPutIsTheOutput();
         Mills.finish();
@@ -43,6 +45,31 @@ public final class FirstPieceEdgesTest {
         Mills.type(mills, "`");
         Mills.due("first() fails at once", -1, Mills.first(mills));
         Mills.due("the output is gone", "", Mills.output(mills));
+    }
+
+    private static void nothingIsLeftOfARunThatFailed() {
+        Mills.sentence("THE FIRST MILL begins without definitions and with an empty OUTPUT.");
+        String ten = "";
+        for (int k = 0; k < 10; k++) {
+            ten += "define(b" + k + "," + k + ")";
+        }
+        String[] failing = {"len((a", "define(a,`1$1')a(popdef(`a')", "len(" + "x".repeat(201), "len(len(len(len(len(len(a", ten + "`"};
+        TwoMills mills = new TwoMills();
+        for (int round = 0; round < 20; round++) {
+            mills.clear();
+            Mills.type(mills, failing[round % failing.length]);
+            Mills.due("first() fails", -1, Mills.first(mills));
+            mills.clear();
+            Mills.type(mills, ten + "b0`'b9 len(" + "y".repeat(200) + ")");
+            Mills.due("first()", 6, Mills.first(mills));
+            Mills.due("output", "09 200", Mills.output(mills));
+        }
+        mills.clear();
+        Mills.type(mills, "define(x,`" + "z".repeat(40) + "')" + "x ".repeat(10));
+        Mills.due("first() fails", -1, Mills.first(mills));
+        mills.clear();
+        Mills.type(mills, "`" + "y".repeat(398) + "'");
+        Mills.due("first() has all its room again", 398, Mills.first(mills));
     }
 
     private static void theTextStaysTyped() {
@@ -108,6 +135,8 @@ public final class FirstPieceEdgesTest {
         Mills.firstGives("define(f,`dnl  " + alone, "");
         Mills.firstFails("define(f,`dnl   " + alone, Mills.ROOM, "");
         Mills.firstFails("define(f,`dnl  " + alone + "y", Mills.ROOM, "");
+        Mills.firstGives("define(f,`dnl $1$1$1$1$1x')f(" + "z".repeat(99) + ")", "");
+        Mills.firstFails("define(f,`dnl $1$1$1$1$1xy')f(" + "z".repeat(99) + ")", Mills.ROOM, "");
         Mills.firstFails("-define(f,`dnl$1$1$1$1$1$1')f(" + "z".repeat(200) + ")", Mills.ROOM, "-");
         // f brings a and 201 characters; a, without brackets, is 1 character and brings 40.
         String nested = "define(a,`dnl " + "x".repeat(36) + "')define(f,`a $1$1$1$1$1')f(" + "z".repeat(40) + ")";
@@ -204,6 +233,26 @@ public final class FirstPieceEdgesTest {
         pieces(Mills.firstGives("7".repeat(400), "7".repeat(400)), 400);
         pieces(Mills.firstGives("),(", "),("), 3);
         Mills.firstGives("define(a,b)aa a1 a_ _a A 1a", "aa a1 a_ _a A 1b");
+    }
+
+    private static void wordsHaveLettersAndDigits() {
+        Mills.sentence("A WORD is a letter or \"_\", and all letters, digits and \"_\" that follow.");
+        for (int c = 32; c < 127; c++) {
+            boolean digit = c >= '0' && c <= '9';
+            boolean letter = c >= 'a' && c <= 'z' || c >= 'A' && c <= 'Z' || c == '_';
+            if (c != '`') {
+                String text = String.valueOf((char) c);
+                pieces(Mills.firstGives("x" + text, "x" + text), letter || digit ? 1 : 2);
+                pieces(Mills.firstGives(text + "x", text + "x"), letter ? 1 : 2);
+            }
+        }
+        Mills.sentence("BLANKS are 10 and 32.");
+        for (int c = 10; c < 127; c = c == 10 ? 32 : c + 1) {
+            boolean blank = c == 10 || c == 32;
+            if ("`(),".indexOf(c) < 0) {
+                Mills.firstGives("len(" + (char) c + "`'x)", blank ? "1" : "2");
+            }
+        }
     }
 
     private static void argumentsAreOpenAtTheEnd() {

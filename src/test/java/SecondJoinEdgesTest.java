@@ -14,6 +14,7 @@ public final class SecondJoinEdgesTest {
         joinedTokensAreOne();
         stringsAreNeverJoined();
         joinedTokensAreGoneOver();
+        whatIsMadeDisturbsNothing();
         joinedTokensHideWhatBothHide();
         emptyOnesHideNothing();
         bodiesWithoutParametersJoinToo();
@@ -164,6 +165,15 @@ public final class SecondJoinEdgesTest {
         gives(2, "#define g(x) <x>\n#define f(x,y) x ## y(1)\nf(g,)", "< 1 >\n");
         gives(2, JOIN + "#define f(x) <x>\nj(f,)(1)", "< 1 >\n");
         Mills.secondGives(JOIN + "#if 1 j(<,<) j(1,0) == 1024\nyes\n#endif", "yes\n");
+    }
+
+    private static void whatIsMadeDisturbsNothing() {
+        Mills.sentence("one token, of both texts");
+        Mills.secondGives("#define a\n" + JOIN + "#if defined a == 1 && j(0,0) == 0 && defined b == 0\nyes\n#endif", "yes\n");
+        Mills.secondGives("#define a\n" + JOIN + "#if j(1,1) == 11 && defined b == 0 && defined a == 1\nyes\n#endif", "yes\n");
+        String start = JOIN + "j(ab,cd)\nj(ef,gh)";
+        Mills.secondGives(start + " ".repeat(396 - start.length()) + "wxyz", "abcd\nefgh wxyz\n");
+        gives(2, JOIN + "j(ab,cd) j(ef,gh)", "abcd efgh\n");
     }
 
     private static void joinedTokensHideWhatBothHide() {

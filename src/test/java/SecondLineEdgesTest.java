@@ -5,6 +5,7 @@ public final class SecondLineEdgesTest {
     public static void main(String[] args) {
         thereMayBeNoOutput();
         eachRunBeginsWithNothing();
+        tokensEndWhereTheTextEnds();
         wordsAndNumbersEnd();
         stringsEndInTheirLine();
         signsHaveOneOrTwo();
@@ -62,6 +63,28 @@ public final class SecondLineEdgesTest {
         Mills.first(mills);
         Mills.due("second() of nothing", 0, Mills.second(mills));
         Mills.states(mills, 7, 0);
+    }
+
+    /** Whatever an earlier text had there. */
+    private static void tokensEndWhereTheTextEnds() {
+        Mills.sentence("THE SECOND MILL begins without names and with an empty RESULT, and takes that OUTPUT.");
+        TwoMills mills = new TwoMills();
+        String join = "#define j(x,y) x##y\n";
+        String[] longer = {"xabc", "x<<", "x##", "x\"\"", "123", join + "j(#,#)", join + "j(a,b)", join + "j(<,=)"};
+        for (String text : longer) {
+            mills.clear();
+            Mills.type(mills, text);
+            Mills.first(mills);
+            Mills.second(mills);
+            String before = Mills.result(mills);
+            String shorter = text.startsWith("#") ? text.substring(0, text.length() - 2) + ")" : text.substring(0, text.length() - 1);
+            mills.clear();
+            Mills.type(mills, shorter);
+            Mills.first(mills);
+            Mills.second(mills);
+            String due = before.substring(0, before.length() - 2) + "\n";
+            Mills.due("result of " + shorter + " behind " + text, due, Mills.result(mills));
+        }
     }
 
     private static void wordsAndNumbersEnd() {
@@ -195,6 +218,7 @@ public final class SecondLineEdgesTest {
             names(Mills.secondGives(namesOf(8) + "#define a" + k + " x\na" + k, "x\n"), 8);
             names(Mills.secondGives(namesOf(8) + "#undef a" + k + "\n#define b x\na" + k + " b", "a" + k + " x\n"), 8);
         }
+        names(Mills.secondGives(namesOf(7) + "#define h(x,y,z) z y x\nh(1,2,3)", "3 2 1\n"), 8);
         names(Mills.secondFails(namesOf(8) + "#undef b\n#define b x\n", Mills.ROOM, 9, ""), 8);
         names(Mills.secondFails(namesOf(8) + "#undef a3\n#define b\n#define c", Mills.ROOM, 10, ""), 8);
     }
@@ -221,6 +245,9 @@ public final class SecondLineEdgesTest {
         names(Mills.secondGives("#define a(x) x\n#define a 1\na a(2)", "1 1 ( 2 )\n"), 1);
         names(Mills.secondGives("#define a 1\n#define a(x) x\na a(2)", "a 2\n"), 1);
         names(Mills.secondGives("#define a(x,y) x\n#define a(y) x y\na(2)", "x 2\n"), 1);
+        names(Mills.secondGives("#define f(x) 1 #x\n#define f(x) 1 #\nf(2)", "1 #\n"), 1);
+        names(Mills.secondGives("#define f(x) x ## 1\n#define g 2\n#define f(x) x\nf(g)", "2\n"), 2);
+        names(Mills.secondGives("#define a 1\n#define b(x) x\n#define a(x,y,z) y\nb(5)a(6,7,8)", "5 7\n"), 2);
     }
 
     private static void undefTakesAName() {

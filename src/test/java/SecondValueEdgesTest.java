@@ -12,6 +12,7 @@ public final class SecondValueEdgesTest {
         numbersAreNotTooGreat();
         bracketsAndSignsAhead();
         signsBindAsSaid();
+        eachTwoSignsBindAsSaid();
         fromTheLeft();
         shiftsTakeSixBits();
         longsWrap();
@@ -21,6 +22,7 @@ public final class SecondValueEdgesTest {
         dividedBy0();
         settledByTheFirstValue();
         settledOnesHaveToBeValuesToo();
+        eachExpressionBeginsAnew();
         Mills.finish();
     }
 
@@ -190,6 +192,50 @@ public final class SecondValueEdgesTest {
         is(0, "0||1&&0");
     }
 
+    /** Two signs between three values, told by the order of strength that the document gives. */
+    private static void eachTwoSignsBindAsSaid() {
+        Mills.sentence("* / % bind strongest, then + -, << >> (by the lowest 6 bits), < > <= >=, == !=, &, ^, |, &&, ||");
+        String[][] strengths = {
+            {"*", "/", "%"}, {"+", "-"}, {"<<", ">>"}, {"<", ">", "<=", ">="}, {"==", "!="}, {"&"}, {"^"}, {"|"}, {"&&"}, {"||"},
+        };
+        int[][] values = {{7, 2, 3}, {2, 1, 2}, {1, 5, 1}, {6, 6, 1}, {3, 4, 5}, {12, 10, 2}};
+        for (int one = 0; one < strengths.length; one++) {
+            for (int other = 0; other < strengths.length; other++) {
+                for (String a : strengths[one]) {
+                    for (String b : strengths[other]) {
+                        for (int[] v : values) {
+                            long due = one <= other ? of(of(v[0], a, v[1]), b, v[2]) : of(v[0], a, of(v[1], b, v[2]));
+                            is(due, v[0] + a + v[1] + b + v[2]);
+                        }
+                    }
+                }
+            }
+        }
+    }
+
+    private static long of(long one, String sign, long other) {
+        switch (sign) {
+            case "*": return one * other;
+            case "/": return one / other;
+            case "%": return one % other;
+            case "+": return one + other;
+            case "-": return one - other;
+            case "<<": return one << other;
+            case ">>": return one >> other;
+            case "<": return one < other ? 1 : 0;
+            case ">": return one > other ? 1 : 0;
+            case "<=": return one <= other ? 1 : 0;
+            case ">=": return one >= other ? 1 : 0;
+            case "==": return one == other ? 1 : 0;
+            case "!=": return one != other ? 1 : 0;
+            case "&": return one & other;
+            case "^": return one ^ other;
+            case "|": return one | other;
+            case "&&": return one != 0 && other != 0 ? 1 : 0;
+            default: return one != 0 || other != 0 ? 1 : 0;
+        }
+    }
+
     private static void fromTheLeft() {
         Mills.sentence("from the left");
         is(-4, "1-2-3");
@@ -290,7 +336,7 @@ public final class SecondValueEdgesTest {
         for (String wrong : new String[] {
             "(", ")", "()", "(1", "1)", "(1))", "((1)", ")(", "(1)(1)", "1 1", "1 x", "x x", "1(1)", "(1)1", "+1", "*1", "1+", "1-", "1*", "1/", "1%", "1<<",
             "1>", "1==", "1&", "1^", "1|", "1&&", "1||", "-", "!", "~", "1!", "1~", "1!1", "1~1", "1+*1", "1++1", "=", "1=1", "1,1", "1?1", "1:1",
-            "1;", "#", "##", "1##1", "1#1", "@", "$", "'", "\"", "\\", ".", "[1]", "{1}", "(1+)", "(+)", "1 - - ", "< 1",
+            "1)+1", "1)+(1", "1)(1", "1))((1", "(1)+1)", "1;", "#", "##", "1##1", "1#1", "@", "$", "'", "\"", "\\", ".", "[1]", "{1}", "(1+)", "(+)", "1 - - ", "< 1",
         }) {
             isNone(wrong);
         }
@@ -331,6 +377,19 @@ public final class SecondValueEdgesTest {
             "1&&0||1/0", "1/(0&&1/0)", "(1||1/0)&&1/0", "0&&0||0/0",
         }) {
             isNone(wrong);
+        }
+    }
+
+    private static void eachExpressionBeginsAnew() {
+        Mills.sentence("Then values");
+        TwoMills mills = new TwoMills();
+        for (String wrong : new String[] {"(", "1+", "((1", "1 1", "-", "1/0", "0&&1/0&&"}) {
+            for (String text : new String[] {"#if " + wrong, "#if 2-1\n#if 3\nx\n#endif\n#endif"}) {
+                mills.clear();
+                Mills.type(mills, text);
+                Mills.first(mills);
+                Mills.due("second() of " + text, text.length() > 20 ? 2 : -1, Mills.second(mills));
+            }
         }
     }
 
