@@ -130,6 +130,7 @@ public final class FirstCallEdgesTest {
         definitions(Mills.firstGives("pushdef(`a',1)popdef(`a')popdef(`a')popdef(`a')a", "a"), 0);
         String again = "pushdef(`a',-)a()popdef(`a')";
         definitions(Mills.firstGives(again.repeat(14) + "a", "-".repeat(14) + "a"), 0);
+        definitions(Mills.firstGives("define(r,`" + again + "')" + "r`'".repeat(30), "-".repeat(30)), 1);
     }
 
     private static void ifdefChooses() {

@@ -55,7 +55,7 @@ public final class FirstPieceEdgesTest {
         }
         String[] failing = {"len((a", "define(a,`1$1')a(popdef(`a')", "len(" + "x".repeat(201), "len(len(len(len(len(len(a", ten + "`"};
         TwoMills mills = new TwoMills();
-        for (int round = 0; round < 20; round++) {
+        for (int round = 0; round < 50; round++) {
             mills.clear();
             Mills.type(mills, failing[round % failing.length]);
             Mills.due("first() fails", -1, Mills.first(mills));

@@ -11,6 +11,7 @@ public final class SecondRoomEdgesTest {
         argumentsComeIn();
         rowsOfArgumentsHaveRoomToo();
         thereAre100DoneWith();
+        oneRowTakesAllThereIs();
         rowsStandInOneAnother();
         rowsWithoutTokensCount();
         onlyExpandedArgumentsAreRows();
@@ -113,6 +114,15 @@ public final class SecondRoomEdgesTest {
         fails(8, NAMES + "a ".repeat(8) + "x x x x f(", Mills.CALL);
         fails(9, NAMES + "#if " + "a ".repeat(9), Mills.ROOM);
         fails(8, NAMES + "#if " + "a ".repeat(8) + "x x x x", Mills.VALUE);
+    }
+
+    private static void oneRowTakesAllThereIs() {
+        Mills.sentence("and at most 100 that are done with");
+        String names = "#define e\n#define b x x x" + " e".repeat(9) + "\n#define c" + " e".repeat(12) + "\n";
+        String all = names + "b ".repeat(33) + "c ".repeat(5) + "e ".repeat(5) + "x ";
+        gives(400, all, row(100));
+        fails(400, all + "e", Mills.SPENT);
+        fails(400, all + "x", Mills.ROOM);
     }
 
     private static String nested(int calls, String inner) {
